@@ -14,6 +14,7 @@ public final class StackTest {
         storeReplaces();
         discardKeepsSlotsAndTable();
         refusedCallsChangeNothing();
+        lastPlaceAndLongestWords();
         check.end();
     }
 
@@ -182,5 +183,19 @@ public final class StackTest {
         check.same("none", Build.chosen(x, 2), "");
         Build.run(x, "A");
         check.same("bottom", Build.chosen(x, 2), "1");
+    }
+
+    /** Eight expressions and words of length seven, where a step too far would leave the arrays. */
+    private static void lastPlaceAndLongestWords() {
+        WordRanker x = Build.made(7, "nnnnnnn2");
+        check.due("plus", x.plus(), 8);
+        check.due("star", x.star(), 8);
+        check.due("reverse", x.reverse(), 8);
+        check.due("alt", x.alt(), 7);
+        check.due("unit", x.unit(), 8);
+        check.due("cat", x.cat(), 7);
+        check.due("store", x.store(2), 6);
+        x.choose(240);
+        check.due("all words are in slot 2", x.total(), 255);
     }
 }
