@@ -3,10 +3,10 @@ final class Build {
     private Build() {
     }
 
-    /** The answer of the last call; each sign of the text is one call. */
+    /** The answer of the last call; each sign of the text but a blank is one call. */
     static int run(WordRanker x, String postfix) {
         int answer = 0;
-        for (char sign : postfix.toCharArray()) {
+        for (char sign : postfix.replace(" ", "").toCharArray()) {
             answer = call(x, sign);
         }
         return answer;
