@@ -23,13 +23,18 @@ final class Edge {
         WordRanker x = at.made();
         check.due(name, call.on(x), code);
         check.due(name + " once more", call.on(x), code);
+        changesNothing(at, call);
+    }
+
+    /** Every answer after the call is the one that is given without it. */
+    void changesNothing(Situation at, Call call) {
         List<String> without = asIfNotMade.computeIfAbsent(at, same -> Afterwards.of(same::made));
         List<String> with = Afterwards.of(() -> {
             WordRanker touched = at.made();
             call.on(touched);
             return touched;
         });
-        check.same("difference after " + name, Afterwards.difference(with, without), "none");
+        check.same(at + " difference after " + call.name(), Afterwards.difference(with, without), "none");
     }
 
     /** The words of the top expression, which is stored for that. */

@@ -32,6 +32,7 @@ public final class EdgeQuestionTest {
         check.part("promise 23, one group", EdgeQuestionTest::leastGroups);
         check.part("promise 23, 2 to the power len groups", EdgeQuestionTest::mostGroups);
         check.part("promise 23, endings as long as N - len", EdgeQuestionTest::longestEndings);
+        check.part("promises 13, 14 and 16 to 23, nothing changes", EdgeQuestionTest::questionsChangeNothing);
         check.end();
     }
 
@@ -58,6 +59,7 @@ public final class EdgeQuestionTest {
     private static void wrongTable(int table) {
         edge.refused(Situation.fresh(3), Call.choose(table), BAD_ARG);
         edge.refused(Situation.deep(4), Call.choose(table), BAD_ARG);
+        edge.refused(Situation.atBothLimits(3, 105), Call.choose(table), BAD_ARG);
         edge.refused(new Situation(3, Situation.SLOTS, 0), Call.choose(table), BAD_ARG);
         edge.refused(new Situation(3, Situation.SLOTS, 255), Call.choose(table), BAD_ARG);
         edge.then(Situation.fresh(3), Call.choose(table), Call.choose(0), 170);
@@ -91,11 +93,13 @@ public final class EdgeQuestionTest {
         for (int n = 1; n <= 7; n++) {
             Situation some = new Situation(n, FEW_WORDS + "0", 85);
             for (int len = 0; len <= n; len++) {
-                check.holds(some + " " + kind.at(len).name() + " is taken", kind.at(len).on(some.made()) >= 0);
+                int answer = kind.at(len).on(some.made());
+                check.holds(some + " " + kind.at(len).name() + " is taken", answer >= 0);
             }
             int[] wrong = {Edge.MIN, Edge.MIN + n, -n, -1, n + 1, n + 2, 31, 32, 32 + n, 64, 256, Edge.MAX};
             for (int len : wrong) {
                 edge.refused(some, kind.at(len), BAD_ARG);
+                edge.refused(Situation.atBothLimits(n, 105), kind.at(len), BAD_ARG);
             }
         }
         // What N became counts, not what was handed over.
@@ -115,7 +119,8 @@ public final class EdgeQuestionTest {
                 edge.taken(new Situation(n, "eA", 85), Call.count(len), len == 0 ? 0 : 1 << len);
                 // The last word of each length.
                 edge.taken(new Situation(n, "1+A", 170), Call.count(len), len == 0 ? 0 : 1);
-                edge.taken(new Situation(n, "e" + "2.".repeat(n) + "A", 170), Call.count(len), len == n ? 1 << n : 0);
+                Situation longest = new Situation(n, "e" + "2.".repeat(n) + "A", 170);
+                edge.taken(longest, Call.count(len), len == n ? 1 << n : 0);
             }
         }
     }
@@ -141,11 +146,13 @@ public final class EdgeQuestionTest {
                 check.holds(kind.at(len, last).name() + " is taken", kind.at(len, last).on(all.made()) >= 0);
                 for (int bits : new int[] {Edge.MIN, -1, last + 1, last + 2, Edge.MAX}) {
                     edge.refused(all, kind.at(len, bits), BAD_ARG);
+                    edge.refused(Situation.atBothLimits(n, 105), kind.at(len, bits), BAD_ARG);
                 }
             }
             for (int len : new int[] {Edge.MIN, -1, n + 1, 31, 32, 32 + n, Edge.MAX}) {
                 for (int bits : new int[] {Edge.MIN, -1, 0, 1, Edge.MAX}) {
                     edge.refused(all, kind.at(len, bits), BAD_ARG);
+                    edge.refused(Situation.atBothLimits(n, 105), kind.at(len, bits), BAD_ARG);
                 }
             }
         }
@@ -216,6 +223,7 @@ public final class EdgeQuestionTest {
     private static void placeTooSmall(OfNumber kind) {
         for (int k : new int[] {Edge.MIN, Edge.MIN + 1, -256, -255, -2, -1}) {
             edge.refused(Situation.fresh(3), kind.at(k), BAD_ARG);
+            edge.refused(Situation.atBothLimits(3, 105), kind.at(k), BAD_ARG);
             edge.refused(new Situation(3, FEW_WORDS + "0", 170), kind.at(k), BAD_ARG);
             edge.refused(new Situation(7, "", 255), kind.at(k), BAD_ARG);
         }
@@ -228,6 +236,14 @@ public final class EdgeQuestionTest {
             for (int k : new int[] {0, 1, Edge.MAX}) {
                 edge.refused(Situation.fresh(n), kind.at(k), BAD_ARG);
                 edge.refused(new Situation(n, "2*A", 0), kind.at(k), BAD_ARG);
+            }
+            for (int table : new int[] {0, 105, 170, 204, 240, 255}) {
+                Situation some = Situation.atBothLimits(n, table);
+                int total = some.made().total();
+                edge.refused(some, kind.at(total), BAD_ARG);
+                edge.refused(some, kind.at(Edge.MAX), BAD_ARG);
+                check.holds(kind.at(total - 1).name() + " is taken",
+                    total == 0 || kind.at(total - 1).on(some.made()) >= 0);
             }
             edge.taken(new Situation(n, "eA", 170), kind.at(0), 0);
             edge.refused(new Situation(n, "eA", 170), kind.at(1), BAD_ARG);
@@ -366,6 +382,28 @@ public final class EdgeQuestionTest {
         for (int n = 1; n <= 7; n++) {
             edge.taken(new Situation(n, "2*1.A", 170), Call.groups(n), 2);
             edge.taken(new Situation(n, "2*1.2.A", 170), Call.groups(n), n == 1 ? 1 : 2);
+        }
+    }
+
+    private static void questionsChangeNothing() {
+        for (Situation at : new Situation[] {
+                Situation.fresh(1), Situation.deep(0), Situation.deep(1), Situation.atBothLimits(3, 105),
+                Situation.atBothLimits(7, 105), Situation.atBothLimits(7, 255)}) {
+            Call[] questions = {
+                Call.DEPTH, Call.LETTERS, Call.TOTAL, Call.count(0), Call.count(1), Call.groups(0),
+                Call.groups(1), Call.isChosen(0, 0), Call.isChosen(1, 1), Call.rank(0, 0), Call.rank(1, 1),
+                Call.countFrom(0, 0), Call.countFrom(1, 1), Call.wordLen(0), Call.wordLen(1),
+                Call.wordBits(0), Call.wordBits(1)
+            };
+            for (Call question : questions) {
+                edge.changesNothing(at, question);
+            }
+            int n = at.maxLen();
+            edge.changesNothing(at, Call.count(n));
+            edge.changesNothing(at, Call.groups(n));
+            edge.changesNothing(at, Call.isChosen(n, (1 << n) - 1));
+            edge.changesNothing(at, Call.rank(n, (1 << n) - 1));
+            edge.changesNothing(at, Call.countFrom(n, (1 << n) - 1));
         }
     }
 }

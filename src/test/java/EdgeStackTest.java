@@ -10,9 +10,7 @@ public final class EdgeStackTest {
     private static final Call[] ON_ONE = {Call.STAR, Call.PLUS, Call.OPT, Call.REVERSE};
     private static final Call[] ON_TWO = {Call.CAT, Call.ALT};
     private static final Call[] PLAIN_PUSHES = {Call.UNIT, Call.NONE};
-    /** Eight expressions and twelve letters at once. */
-    private static final Situation BOTH_LIMITS =
-        new Situation(3, Situation.SLOTS + "01. 12. 20. 11. 0 1 2 0", 105);
+    private static final Situation BOTH_LIMITS = Situation.atBothLimits(3, 105);
 
     public static void main(String[] args) {
         check.part("promise 2, c below 0", () -> wrongLetters(BELOW_0));
@@ -306,6 +304,7 @@ public final class EdgeStackTest {
             edge.refused(Situation.deep(1), Call.store(slot), BAD_ARG);
             edge.refused(Situation.deep(8), Call.store(slot), BAD_ARG);
             edge.refused(Situation.lettered(12, 1), Call.store(slot), BAD_ARG);
+            edge.refused(BOTH_LIMITS, Call.store(slot), BAD_ARG);
         }
     }
 

@@ -25,6 +25,11 @@ record Situation(int maxLen, String postfix, int table) {
         return new Situation(3, postfix, TABLE);
     }
 
+    /** Filled slots, and a stack at both limits: eight expressions and twelve letters, some in each place. */
+    static Situation atBothLimits(int maxLen, int table) {
+        return new Situation(maxLen, SLOTS + "01. 12.* 20. 11.? 0+ 1 2* 0", table);
+    }
+
     /** Throws if a call on the way is refused: the situation would not be the one that was meant. */
     WordRanker made() {
         WordRanker x = new WordRanker(maxLen);
