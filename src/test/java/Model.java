@@ -5,6 +5,7 @@ import java.util.HashSet;
 import java.util.List;
 import java.util.Set;
 import java.util.TreeSet;
+import java.util.function.Predicate;
 
 /** The document said again over sets of texts, to be compared with the program. */
 final class Model {
@@ -14,6 +15,7 @@ final class Model {
     final int maxLen;
     private final Deque<Expression> stack = new ArrayDeque<>();
     private final List<Set<String>> slots = new ArrayList<>(List.of(Set.of(), Set.of(), Set.of()));
+    private final List<String> chosen = new ArrayList<>();
     private int table = 170;
 
     Model(int maxLen) {
@@ -72,6 +74,7 @@ final class Model {
             return -3;
         }
         slots.set(slot, stack.pop().words);
+        listChosen();
         return stack.size();
     }
 
@@ -93,34 +96,44 @@ final class Model {
         }
         int before = table;
         table = newTable;
+        listChosen();
         return before;
     }
 
-    /** The chosen words in the order. */
-    List<String> chosen() {
-        List<String> words = new ArrayList<>();
-        for (int len = 0; len <= maxLen; len++) {
-            for (String word : allOf(len)) {
-                if (isChosen(word)) {
-                    words.add(word);
-                }
-            }
-        }
-        return words;
+    int count(int len) {
+        return isLength(len) ? number(word -> word.length() == len) : -1;
     }
 
-    boolean isChosen(String word) {
-        int index = 0;
-        for (int slot = 0; slot < 3; slot++) {
-            index += slots.get(slot).contains(word) ? (int) Math.pow(2, slot) : 0;
-        }
-        return table / (int) Math.pow(2, index) % 2 == 1;
+    int total() {
+        return chosen.size();
+    }
+
+    int isChosen(int len, int bits) {
+        return isValid(len, bits) ? number(word(len, bits)::equals) : -1;
+    }
+
+    int rank(int len, int bits) {
+        return isValid(len, bits) ? number(word -> comesBefore(word, word(len, bits))) : -1;
+    }
+
+    int wordLen(int k) {
+        return k >= 0 && k < total() ? chosen.get(k).length() : -1;
+    }
+
+    int wordBits(int k) {
+        return k >= 0 && k < total() ? Integer.parseInt("0" + chosen.get(k), 2) : -1;
+    }
+
+    int countFrom(int len, int bits) {
+        return isValid(len, bits) ? number(word -> word.startsWith(word(len, bits))) : -1;
     }
 
     /** The groups are told apart by the endings that are chosen after a word. */
     int groups(int len) {
+        if (!isLength(len)) {
+            return -1;
+        }
         Set<Set<String>> seen = new HashSet<>();
-        List<String> chosen = chosen();
         for (String word : allOf(len)) {
             Set<String> endings = new HashSet<>();
             for (String whole : chosen) {
@@ -145,6 +158,47 @@ final class Model {
             words = longer;
         }
         return words;
+    }
+
+    /** Lists the chosen words in the order, after a slot or the table has changed. */
+    private void listChosen() {
+        chosen.clear();
+        for (int len = 0; len <= maxLen; len++) {
+            for (String word : allOf(len)) {
+                if (isPicked(word)) {
+                    chosen.add(word);
+                }
+            }
+        }
+    }
+
+    private boolean isPicked(String word) {
+        int index = 0;
+        for (int slot = 0; slot < 3; slot++) {
+            index += slots.get(slot).contains(word) ? (int) Math.pow(2, slot) : 0;
+        }
+        return table / (int) Math.pow(2, index) % 2 == 1;
+    }
+
+    private int number(Predicate<String> kind) {
+        return (int) chosen.stream().filter(kind).count();
+    }
+
+    private boolean isLength(int len) {
+        return len >= 0 && len <= maxLen;
+    }
+
+    private boolean isValid(int len, int bits) {
+        return isLength(len) && bits >= 0 && bits < Math.pow(2, len);
+    }
+
+    private static String word(int len, int bits) {
+        return len == 0 ? "" : Build.text(len, bits);
+    }
+
+    private static boolean comesBefore(String one, String other) {
+        return one.length() < other.length()
+            || one.length() == other.length() && one.compareTo(other) < 0;
     }
 
     private int push(Set<String> words, int letters) {

@@ -15,7 +15,8 @@ public final class RulesTest {
     private static final Path SOURCE = Path.of("src/main/java/WordRanker.java");
     private static final Set<String> FORBIDDEN = Set.of(
         "import", "package", "float", "double", "String", "Math", "Integer", "Long", "System", "Arrays",
-        "Object", "throw", "throws", "try", "catch", "finally", "synchronized", "assert", "instanceof",
+        "Object", "getClass", "hashCode", "equals", "toString", "clone", "finalize", "notify", "notifyAll",
+        "wait", "throw", "throws", "try", "catch", "finally", "synchronized", "assert", "instanceof",
         "null", "interface", "enum", "record", "var", "native", "volatile", "protected");
 
     public static void main(String[] args) throws IOException {
